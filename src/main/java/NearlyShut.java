@@ -650,18 +650,8 @@ public final class NearlyShut {
             if (count >= MACHINES) {
                 return NONE;
             }
-            int machine = count;
-            int from = spot(machine, 0);
-            int to = spot(machine + 1, 0);
-            // the row may still hold a machine that went when it was gone back to a mark
-            Arrays.fill(wear, from, to, 0);
-            Arrays.fill(set, from, to, 0);
-            Arrays.fill(bent, from, to, 0);
-            Arrays.fill(place, from, to, 0);
-            flights[machine] = 0;
-            took[machine] = 0;
-            count = machine + 1;
-            return machine;
+            count++;
+            return count - 1;
         }
 
         void letGo(int machine) {
@@ -698,6 +688,7 @@ public final class NearlyShut {
             return sum;
         }
 
+        /** Rows behind the last machine are all 0, here as there, so machines told later begin anew. */
         void become(Fleet other) {
             count = other.count;
             System.arraycopy(other.wear, 0, wear, 0, wear.length);
