@@ -1,11 +1,25 @@
+import java.io.IOException;
+import java.nio.file.Files;
+import java.nio.file.Path;
+
 /** What the tests share: answers held against what is due, and texts put on the tape. */
 final class Checks {
+    private static final String DOCUMENT = document();
+
     private int wrong = 0;
+    private String sentence = "";
+
+    /** The sentence that is tested from here on, in the document's own words. */
+    void sentence(String words) {
+        sentence = "";
+        due("these words stand in the document: " + words, DOCUMENT.isEmpty() || DOCUMENT.contains(words), true);
+        sentence = "\"" + words + "\": ";
+    }
 
     void due(String call, long got, long want) {
         if (got != want) {
             wrong++;
-            System.out.println(call + " answered " + got + ", due is " + want);
+            System.out.println(sentence + call + " answered " + got + ", due is " + want);
         }
     }
 
@@ -34,5 +48,14 @@ final class Checks {
     static int order(NearlyShut x, int kind, int day, String text) {
         type(x, text);
         return x.order(kind, day);
+    }
+
+    private static String document() {
+        Path path = Path.of("../shared/DOC.md");
+        try {
+            return Files.exists(path) ? Files.readString(path).replaceAll("\\s+", " ") : "";
+        } catch (IOException e) {
+            return "";
+        }
     }
 }
