@@ -490,7 +490,7 @@ public final class NearlyShut {
     private static int noneAfter(int none, int u, int flights) {
         long chance = none;
         int left = flights;
-        while (left > 0 && chance > 0 && u > 0) {
+        for (int n = 0; n < flights && left > 0 && chance > 0 && u > 0; n++) {
             long less = (chance * u + MILLION - 1) / MILLION;
             long leastAlike = (less - 1) * MILLION / u + 1;
             long alike = less > 0 ? (chance - leastAlike) / less + 1 : 1;

@@ -241,6 +241,19 @@ public final class DoorEdgesTest {
         x.part(HOOK, 1, 0, 21, 38, 0, 0);
         c.due("the least of all that hold", x.push(0, 999, 49), 19);
         c.due("the hook holds it still", x.push(0, 999, 50), 19);
+        // a rod never goes beyond its limit, less what it is bent: what it drives is asked no more than that
+        for (int bent = 0; bent <= 5; bent += 5) {
+            for (int limit = 40; limit <= 60; limit++) {
+                NearlyShut y = handled();
+                y.part(ROD, 0, 0, 11, 50, 30, 0);
+                y.push(0, 50 + bent, 30);
+                y.part(HOOK, 1, 0, 11, limit, 0, 0);
+                boolean free = limit >= 50 - bent;
+                String what = "a hook to " + limit + " by a rod to 50, bent by " + bent;
+                c.due(what + ", strong", y.push(0, 999, 29), free ? 50 : limit + bent);
+                c.due(what + ", weak", y.push(0, 999, 30), free ? 999 : limit + bent);
+            }
+        }
     }
 
     private static void weakRods() {
@@ -423,6 +436,8 @@ public final class DoorEdgesTest {
         c.due("WEAR stays", x.state(0, 5, 1), 7);
         c.due("SET stays", x.state(0, 5, 2), -7);
         c.due("again", x.release(0), true);
+        c.due("the last MACHINE", x.release(1), true);
+        for (int part = 0; part < 24; part++) c.due("PLACE of " + part + " of the last", x.state(1, part, 0), 0);
         NearlyShut y = new NearlyShut();
         c.due("no MACHINE", y.release(0), false);
         y.machine();

@@ -14,6 +14,7 @@ public final class FlightAndMarkEdgesTest {
         asTheyWere();
         machinesToldSince();
         whatWasOfThem();
+        onlyWhatWasOfThem();
         partsToldSince();
         allElseStays();
         roomAgain();
@@ -142,12 +143,14 @@ public final class FlightAndMarkEdgesTest {
     private static void noneInFlights() {
         c.sentence("none in n FLIGHTS (0 to 9999): a million, FLIGHT by FLIGHT less so much times u by a million, upwards");
         NearlyShut x = new NearlyShut();
-        // 500001: 499999 is left, then less 249999.999999, upwards 250000
+        // 500001: 499999 is left, then less 249999.999999, upwards 250000;
+        // 11739: 976659 are left behind two, then less 11465.000001, upwards 11466
         int[][] cases = {{0, 0, 0}, {0, 1, 0}, {0, 9999, 0}, {1, 0, 0}, {1, 1, 1}, {1, 2, 2}, {1, 9999, 9999}, {2, 1, 2}, {2, 2, 4},
             {500000, 1, 500000}, {500000, 2, 750000}, {500000, 3, 875000}, {500000, 6, 984375}, {500000, 7, 992188},
             {500001, 1, 500001}, {500001, 2, 750001}, {333333, 1, 333333}, {333333, 2, 555556}, {999999, 0, 0}, {999999, 1, 999999},
             {999999, 2, 1000000}, {999999, 9999, 1000000}, {1000000, 0, 0}, {1000000, 1, 1000000}, {1000000, 2, 1000000},
-            {1000000, 9999, 1000000}, {100000, 2, 190000}, {100000, 7, 521704}};
+            {1000000, 9999, 1000000}, {100000, 2, 190000}, {100000, 7, 521704},
+            {11739, 2, 23341}, {11739, 3, 34807}};
         for (int[] n : cases) c.due("u " + n[0] + ", n " + n[1], x.odds(n[0], n[1]), n[2]);
     }
 
@@ -312,6 +315,36 @@ public final class FlightAndMarkEdgesTest {
         x.machine();
         c.due("no STAMP of the last is left", x.bound(3, 0), 8);
         c.due("none done", x.bound(3, 3), 0);
+    }
+
+    /** The first MACHINE that goes and the last that stays, with their first and last TASKS and all PAPERS. */
+    private static void onlyWhatWasOfThem() {
+        c.sentence("MACHINES told since, with their STAMPS, what was SEEN of them and PAPERS' naming of them (none then), are gone");
+        for (int stay = 0; stay <= 19; stay += 19) {
+            for (int task = 0; task < 10; task += 9) {
+                NearlyShut x = new NearlyShut();
+                for (int i = 0; i < stay; i++) x.machine();
+                x.mark(3);
+                x.machine();
+                x.stamp(stay, task, 0, 0);
+                x.see(stay, task, 0, true);
+                if (stay > 0) x.stamp(stay - 1, task, 0, 0);
+                if (stay > 0) x.see(stay - 1, task, 0, true);
+                for (int paper = 0; paper < 30; paper++) x.paper(stay == 0 || paper != 15 ? stay : stay - 1, 0, 0);
+                for (int paper = 0; paper < 30; paper++) x.read(paper / 2, paper, 0);
+                c.due("WARNED", x.warned(stay, 0) != 0, true);
+                x.back(3);
+                c.due("STAMPS", x.count(5), stay > 0 ? 1 : 0);
+                c.due("SEEN", x.count(6), stay > 0 ? 1 : 0);
+                c.due("FEWEST", x.fewest(), 0);
+                if (stay > 0) c.due("the one that stays", x.sure(0), 1);
+                if (stay > 0) c.due("WARNED of the one that stays", x.warned(stay - 1, 0), 1 << 7);
+                c.due("told again", x.machine(), stay);
+                c.due("no PAPER names it", x.warned(stay, 0), 0);
+                c.due("no STAMP of it is false", x.stamp(stay, task, 0, 0), stay > 0 ? 1 : 0);
+                c.due("nothing was SEEN of it", x.sure(stay > 0 ? 1 : 0), 0);
+            }
+        }
     }
 
     private static void partsToldSince() {

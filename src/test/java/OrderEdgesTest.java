@@ -90,6 +90,10 @@ public final class OrderEdgesTest {
         good("ground if 1=" + " ".repeat(387) + "1");
         fault("ground if 1=" + " ".repeat(387) + "]", 399, 0);
         fault("ground if 1=" + " ".repeat(388), 400, 0);
+        // as many signs as there can be
+        fault(";".repeat(400), 0, 0);
+        fault("ground if " + "[".repeat(390), 20, 2);
+        fault("ground if 1=1" + "+1".repeat(57) + "]".repeat(273), 13 + 114, 0);
     }
 
     private static void end() {
@@ -145,6 +149,9 @@ public final class OrderEdgesTest {
         c.due("a short one", Checks.order(x, 0, 0, "look handle"), 2);
         c.due("that alone binds", x.bound(0, 3), 1);
         c.due("nothing is owed", x.bound(0, 0), 0);
+        for (int i = 0; i < 9; i++) c.due("a long one with a fault", Checks.order(x, 0, 0, "force " + sum(60) + " ?"), -2 - (1 + 8 * 126));
+        c.due("a long one without", Checks.order(x, 0, 0, "force " + sum(57) + " if 1 = 1"), 3);
+        c.due("is whole", x.bound(0, 2), 57);
     }
 
     private static void kindsAndDays() {
@@ -597,6 +604,12 @@ public final class OrderEdgesTest {
         c.due("in force", x.bound(0, 2), 299);
         Checks.order(x, 0, 0, "force 0 - 7; force 3");
         c.due("the least is below 0", x.bound(0, 2), 0);
+        NearlyShut two = machines(2);
+        Checks.order(two, 0, 0, "force 100 + machine; force 5 if machine = 1");
+        for (int i = 0; i < 3; i++) {
+            c.due("of the one", two.bound(1, 2), 5);
+            c.due("of the other, asked behind it", two.bound(0, 2), 100);
+        }
         NearlyShut most = machines(1);
         Checks.order(most, 0, 0, "force " + "0-99999" + "-99999".repeat(50));
         c.due("far below 0", most.bound(0, 2), 0);
@@ -703,24 +716,30 @@ public final class OrderEdgesTest {
         NearlyShut flights = machines(1);
         for (int i = 0; i < 102; i++) flights.fly(0, 9999);
         is(flights, 0, "flights - 99999" + "-90000".repeat(10), "0");
-        for (int word = 0; word < 2; word++) {
-            NearlyShut x = machines(2);
-            x.part(0, -1, 0, 11, 999, 0, 0);
-            for (int part = 1; part < 24; part++) x.part(1, 0, 0, 91, 0, 0, 0);
-            for (int part = 0; part < 24; part++) x.turn(1, part, 0, part == 0 ? 99 : 98);
-            x.turn(1, 23, 0, 99);
-            x.turn(0, 3, 0, 5);
-            if (word == 0) {
-                is(x, 1, "wear", "" + (2 * 99 + 22 * 98));
-                c.due("of that MACHINE alone", x.bound(0, 3), 0);
-            } else {
-                for (int part = 1; part < 24; part++) x.turn(1, part, 0, 0);
-                x.push(1, 999, 0);
-                x.push(1, 999, 0);
-                is(x, 1, "bent - 99999 - 99999", "" + (23 * 9999 - 2 * 99999));
-                c.due("of that MACHINE alone, too", x.bound(0, 3), 0);
+        // the least and the greatest number of each part and machine; the neighbours in all rows have other wear
+        for (int m : new int[] {0, 1, 18, 19}) {
+            for (int own = 0; own < 24; own += 23) {
+                NearlyShut x = machines(20);
+                x.part(0, -1, 0, 11, 999, 0, 0);
+                for (int part = 1; part < 24; part++) x.part(1, 0, 0, 91, 0, 0, 0);
+                for (int next = Math.max(0, m - 1); next <= Math.min(19, m + 1); next++) {
+                    x.turn(next, 0, 0, 40);
+                    x.turn(next, 23, 0, 50);
+                    x.push(next, next == m ? 7 : 11, 0);
+                }
+                x.turn(m, own, 0, 99);
+                is(x, m, "wear", own == 0 ? "149" : "139");
+                Checks.order(x, 0, 0, "look window if bent = " + 22 * 63);
+                c.due("bent of " + m, x.bound(m, 3), 4 + 8);
             }
         }
+        NearlyShut most = machines(1);
+        most.part(0, -1, 0, 11, 999, 0, 0);
+        for (int part = 1; part < 24; part++) most.part(1, 0, 0, 91, 0, 0, 0);
+        for (int part = 0; part < 24; part++) most.turn(0, part, 0, 99);
+        is(most, 0, "wear", "" + 24 * 99);
+        for (int i = 0; i < 3; i++) most.push(0, 999, 0);
+        is(most, 0, "bent - 99999 - 99999", "" + (23 * 9999 - 2 * 99999));
         NearlyShut done = machines(2);
         for (int task = 0; task < 10; task++) {
             done.stamp(1, task, task, 0);
@@ -730,6 +749,18 @@ public final class OrderEdgesTest {
         is(done, 1, "done", "10");
         c.due("done of the other", done.bound(0, 3), 0);
         is(done, 0, "done", "1");
+        for (int m : new int[] {0, 1, 18, 19}) {
+            NearlyShut x = machines(20);
+            for (int next = Math.max(0, m - 1); next <= Math.min(19, m + 1); next++) {
+                for (int task = 0; task < 10; task++) if (next != m) x.stamp(next, task, task, 0);
+            }
+            is(x, m, "done", "0");
+            x.stamp(m, 0, 0, 0);
+            x.stamp(m, 9, 0, 0);
+            Checks.order(x, 0, 0, "look window if done = 2; must 0 within 0; must 9 within 0; must 5 within 0");
+            c.due("done of " + m, x.bound(m, 3), 8);
+            c.due("OWED of " + m, x.bound(m, 0), 32);
+        }
         c.sentence("since (DAYS gone since that of the ORDER, 0 at least)");
         NearlyShut since = machines(1);
         since.clock(5);

@@ -14,6 +14,8 @@ public final class StampAndPaperEdgesTest {
         fewest();
         surely();
         surelyByOthers();
+        choicesMove();
+        theLastStamp();
         noSet();
         papers();
         needs();
@@ -94,6 +96,15 @@ public final class StampAndPaperEdgesTest {
         c.due("not yet", y.fewest(), 0);
         y.see(0, 3, 5, false);
         c.due("the hundredth counts", y.fewest(), 1);
+        for (int machine : new int[] {0, 19}) {
+            for (int task = 0; task < 10; task += 9) {
+                NearlyShut z = on(0, 20);
+                z.see(machine, task, 0, true);
+                c.due("TASK " + task + " of MACHINE " + machine + " without a STAMP", z.fewest(), -2);
+                z.stamp(machine, task, 0, 0);
+                c.due("with one", z.sure(0), 1);
+            }
+        }
     }
 
     private static void twoOnADay() {
@@ -276,6 +287,52 @@ public final class StampAndPaperEdgesTest {
         sure("one way", x, 2, 1, 1, 2, 1, 1, 2, 2, 1, 1, 1);
     }
 
+    /** Works 0 to 4: P, Q, X, Y, W; men 0 (A), 1 (B), 2 (C): to make room for W, X goes from A to B and P from B to C. */
+    private static void choicesMove() {
+        c.sentence("A set of STAMPS that are FALSE CAN BE, if no MAN has more than two others on one DAY");
+        NearlyShut x = on(9, 1);
+        int[][] stamps = {{2, 0}, {0, 2}, {0, 1}, {1, 1}, {2, 1}, {3, 0}, {4, 0}};
+        for (int[] s : stamps) x.stamp(0, s[0], s[1], 4);
+        for (int task = 0; task < 5; task++) {
+            x.see(0, task, 4, true);
+            c.due("up to TASK " + task, x.fewest(), 2);
+        }
+        sure("all but two are true", x, 2, 1, 2, 1, 1, 1, 1);
+        x.stamp(0, 5, 2, 4);
+        x.see(0, 5, 4, true);
+        c.due("C has room for one more", x.fewest(), 2);
+        x.stamp(0, 6, 1, 4);
+        x.see(0, 6, 4, true);
+        c.due("B has none", x.fewest(), -2);
+        // what was found before counts no more: at first Y was by A, then three others are by A alone
+        NearlyShut y = on(9, 1);
+        y.stamp(0, 3, 1, 4);
+        y.stamp(0, 3, 0, 4);
+        for (int task = 0; task < 3; task++) y.stamp(0, task, 0, 4);
+        y.see(0, 3, 4, true);
+        c.due("Y by A or B", y.fewest(), 2);
+        for (int task = 0; task < 3; task++) {
+            y.see(0, task, 4, true);
+            c.due("others by A alone, " + task, y.fewest(), task < 2 ? 2 : -2);
+        }
+    }
+
+    private static void theLastStamp() {
+        c.sentence("A STAMP is SURELY FALSE, if it is in all sets that CAN BE; SURELY TRUE, if in none.");
+        NearlyShut x = on(200, 2);
+        for (int i = 0; i < 197; i++) x.stamp(1, 0, 0, i);
+        for (int task = 0; task < 3; task++) x.stamp(0, task, 0, 199);
+        x.see(0, 0, 199, true);
+        c.due("neither", x.sure(199), 0);
+        x.see(0, 1, 199, true);
+        c.due("there is no room for the last", x.sure(199), 2);
+        c.due("the one ahead of it", x.sure(198), 1);
+        c.due("the first", x.sure(0), 0);
+        x.see(1, 0, 0, true);
+        c.due("the first, seen done", x.sure(0), 1);
+        c.due("the last still", x.sure(199), 2);
+    }
+
     private static void noSet() {
         c.sentence("(No set at all: told so.)");
         NearlyShut x = on(9, 1);
@@ -336,6 +393,16 @@ public final class StampAndPaperEdgesTest {
         c.due("NOW", x.read(1, 0, 9), true);
         c.due("behind NOW", x.read(2, 0, 10), false);
         for (int man = 0; man < 16; man++) c.due("MAN " + man, x.read(man, 0, 9), true);
+        NearlyShut last = on(9, 1);
+        for (int i = 0; i < 30; i++) last.paper(0, 0, 0);
+        for (int man = 0; man < 16; man += 15) {
+            for (int paper = 0; paper < 30; paper += 29) {
+                c.due("MAN " + man + ", PAPER " + paper, last.read(man, paper, man + paper > 9 ? 9 : 3), true);
+                c.due("MAN " + man + " KNEW of PAPER " + paper, last.knew(man, paper), man + paper > 9 ? 9 : 3);
+                c.due("he alone", last.knew(7, paper), -2);
+                c.due("of that alone", last.knew(man, 7), -2);
+            }
+        }
         c.due("MAN 16", x.read(16, 0, 9), false);
         c.due("MAN -1", x.read(-1, 0, 9), false);
         c.due("PAPER 1", x.read(0, 1, 9), false);

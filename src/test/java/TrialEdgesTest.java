@@ -162,6 +162,18 @@ public final class TrialEdgesTest {
             c.due("the eighth for MACHINE " + machine, x.cheapest(machine, 0, 2, 10, 0, 0), 128);
         }
         c.due("not enough", x.cheapest(0, 0, 2, 11, 0, 0), -2);
+        // of the last PART there can be, by each of the three
+        int[][] told = {{1, 0, 0}, {0, -1, 0}, {0, 0, 1}};
+        for (int[] t : told) {
+            NearlyShut y = new NearlyShut();
+            y.part(0, -1, 0, 11, 100, 0, t[2] == 1 ? 60 : 0);
+            for (int part = 1; part < 23; part++) y.part(t[2] == 1 ? 2 : 4, 0, 0, 11, 999, 0, t[2] == 1 ? 101 : 0);
+            if (t[2] == 1) y.part(1, 0, 0, 11, 50, 0, 0);
+            else y.part(2, 0, 1, 11, 999, 0, 100);
+            y.machine();
+            c.due("PART 23", y.change(23, t[0], t[1], t[2], 1), 0);
+            c.due("a CHANGE of PART 23", y.cheapest(0, 0, 1, 0, 0, 1), 1);
+        }
     }
 
     private static void lessGap() {
