@@ -214,6 +214,10 @@ public final class RefusedCallsTest {
         refused("takes", false, 0, 1, false);
         refused("takes", false, 0, 0, true);
         refused("takes", false, 0, 2, true);
+        for (int order : new int[] {-1, 3, 11, 12, 33}) {
+            refused("takes", false, 0, order, true);
+            refused("takes", false, 0, order, false);
+        }
         c.sentence("4: 1 if GROUNDED, else 0. NONE without it, or for another what.");
         asks("bound", -1, new int[][] {{0, 1}, {0, 4}}, 0, 0);
     }

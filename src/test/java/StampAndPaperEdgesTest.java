@@ -304,6 +304,13 @@ public final class StampAndPaperEdgesTest {
         x.stamp(0, 6, 1, 4);
         x.see(0, 6, 4, true);
         c.due("B has none", x.fewest(), -2);
+        // X, Y, U, V, W, Z and A, B, C, D: for W X goes from A to B, then for Z W goes on to C and U from C to D
+        NearlyShut z = on(9, 1);
+        int[][] twice = {{0, 1}, {0, 0}, {1, 0}, {2, 3}, {2, 2}, {3, 2}, {4, 2}, {4, 0}, {5, 0}};
+        for (int[] s : twice) z.stamp(0, s[0], s[1], 4);
+        for (int task = 0; task < 6; task++) z.see(0, task, 4, true);
+        c.due("room is made twice", z.fewest(), 3);
+        sure("one way is left", z, 1, 2, 1, 1, 2, 1, 1, 2, 1);
         // what was found before counts no more: at first Y was by A, then three others are by A alone
         NearlyShut y = on(9, 1);
         y.stamp(0, 3, 1, 4);

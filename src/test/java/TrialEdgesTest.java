@@ -5,6 +5,7 @@ public final class TrialEdgesTest {
     public static void main(String[] args) {
         twoParts();
         pairsInOrder();
+        noFartherThanMost();
         kth();
         asItIs();
         byAForce();
@@ -69,6 +70,32 @@ public final class TrialEdgesTest {
         c.due("the first is b's 10", y.tried(0, 1, 2, 10, 0, 0, 0), 10);
         c.due("as many the other way round", y.tried(0, 2, 1, 10, 0, 0, -1), 56);
         c.due("the first the other way round", y.tried(0, 2, 1, 10, 0, 0, 0), 16 + 10);
+    }
+
+    /** A hook that stands at 100 less both wears, a's and b's, with a mark. */
+    private static NearlyShut bothCount(int mark) {
+        NearlyShut x = new NearlyShut();
+        x.part(0, -1, 0, 11, 100, 0, 0);
+        x.part(1, 0, 0, 11, 999, 999, 0);
+        x.part(2, 1, 0, 11, 999, 0, mark);
+        x.machine();
+        return x;
+    }
+
+    private static void noFartherThanMost() {
+        c.sentence("WEAR of a from 0 to most, for each of these WEAR of b from 0 to most (most 0 to 15)");
+        for (int most = 0; most <= 15; most++) {
+            NearlyShut x = bothCount(100 - 2 * most);
+            c.due("over with both at " + most, x.tried(0, 1, 2, most, 0, 0, -1), 0);
+            c.due("no CHANGE is needed", x.cheapest(0, 1, 2, most, 0, 0), 0);
+            NearlyShut y = bothCount(101 - 2 * most);
+            c.due("one short with both at " + most, y.tried(0, 1, 2, most, 0, 0, -1), 1);
+            c.due("that pair", y.tried(0, 1, 2, most, 0, 0, 0), 17 * most);
+            c.due("no set", y.cheapest(0, 1, 2, most, 0, 0), -2);
+            y.change(2, 0, 1, 0, 1);
+            y.change(2, 0, -1, 0, 2);
+            c.due("the set that mends just that pair", y.cheapest(0, 1, 2, most, 0, 0), 2);
+        }
     }
 
     private static void kth() {
