@@ -13,6 +13,9 @@ public final class DoorEdgesTest {
         days();
         handle();
         drivers();
+        numbersOfAPart();
+        travelAndForce();
+        whats();
         partsAndMachines();
         atFirst();
         partsToldLater();
@@ -127,6 +130,71 @@ public final class DoorEdgesTest {
             boolean can = share >= 11 && share <= 99 && share % 10 != 0;
             c.due("share " + share, handled().part(ROD, 0, 0, share, 9, 9, 9), can ? 1 : -1);
             c.due("share " + share + " of a handle", new NearlyShut().part(HANDLE, -1, 0, share, 9, 9, 9), can ? 0 : -1);
+        }
+    }
+
+    /** Each number of a PART at its edges and one beyond, for a handle and for each other kind. */
+    private static void numbersOfAPart() {
+        String[] words = {"a gap (0 to 99)", "a limit (0 to 999)", "a strength (0 to 999)", "a mark (0 to 999)"};
+        for (int number = 0; number < 4; number++) {
+            c.sentence(words[number]);
+            int most = number == 0 ? 99 : 999;
+            for (int n : new int[] {Integer.MIN_VALUE, -most, -1, 0, 1, most - 1, most, most + 1, Integer.MAX_VALUE}) {
+                int[] a = {5, 5, 5, 5};
+                a[number] = n;
+                boolean can = n >= 0 && n <= most;
+                c.due("of a handle, " + n, new NearlyShut().part(HANDLE, -1, a[0], 11, a[1], a[2], a[3]), can ? 0 : -1);
+                for (int kind = ROD; kind <= WINDOW; kind++) {
+                    NearlyShut x = handled();
+                    x.part(HOOK, 0, 0, 11, 999, 0, 0);
+                    c.due("of kind " + kind + ", " + n, x.part(kind, 1, a[0], 11, a[1], a[2], a[3]), can ? 2 : -1);
+                    c.due("PARTS", x.count(1), can ? 3 : 2);
+                }
+            }
+        }
+        c.sentence("(share: 10 times what it is times by, and what it is by: 32 is times 3 by 2)");
+        for (int times = 1; times <= 9; times++) {
+            for (int by = 1; by <= 9; by++) {
+                NearlyShut x = handled();
+                x.part(VENT, 0, 0, 10 * times + by, 999, 0, 0);
+                c.due("times " + times + " by " + by, placeBehind(x, 1, 100), 100 * times / by);
+            }
+        }
+    }
+
+    private static void travelAndForce() {
+        c.sentence("A PUSH of a MACHINE by a travel (0 to 999) and a force (0 to 999)");
+        NearlyShut x = handled();
+        x.part(ROD, 0, 0, 11, 500, 999, 0);
+        int[][] good = {{0, 0, 0}, {999, 0, 500}, {999, 998, 500}, {0, 999, 0}, {999, 999, 999}};
+        for (int[] g : good) c.due("by " + g[0] + " and " + g[1], x.push(0, g[0], g[1]), g[2]);
+        int[][] bad = {{-1, 0}, {1000, 0}, {0, -1}, {0, 1000}, {-1, -1}, {1000, 1000}};
+        for (int[] b : bad) c.due("by " + b[0] + " and " + b[1], x.push(0, b[0], b[1]), -1);
+        c.due("where it was", x.state(0, 0, 0), 999);
+        c.due("as it was bent", x.state(0, 1, 3), 499);
+    }
+
+    private static void whats() {
+        c.sentence("Of a PART of a MACHINE what 0: PLACE, 1: WEAR, 2: SET, 3: BENT, 4: 1 if OVER, else 0.");
+        NearlyShut x = handled();
+        x.part(ROD, 0, 0, 11, 500, 0, 490);
+        x.turn(0, 1, 0, 7);
+        x.turn(0, 1, 1, 10);
+        x.push(0, 510, 0);
+        int[] first = {-1000, 500, 7, 10, 3, 1, -1000};
+        for (int what = -1; what <= 5; what++) c.due("what " + what, x.state(0, 1, what), first[what + 1]);
+        x.turn(0, 1, 1, 11);
+        c.due("not OVER", x.state(0, 1, 4), 0);
+        c.sentence("Of a MACHINE what 0: 1 if SHUT, 1: 1 if it LOOKS so by what is looked at (0 to 15)");
+        NearlyShut y = handled();
+        y.part(HOOK, 0, 0, 11, 999, 0, 1);
+        for (int looked = -2; looked <= 17; looked++) {
+            boolean can = looked >= 0 && looked <= 15;
+            c.due("SHUT, looked " + looked, y.judged(0, 0, looked), can ? 0 : -1);
+            c.due("LOOKS, looked " + looked, y.judged(0, 1, looked), can ? 1 : -1);
+            c.due("UNLIKE, looked " + looked, y.judged(0, 2, looked), can ? 1 : -1);
+            c.due("what 3, looked " + looked, y.judged(0, 3, looked), -1);
+            c.due("what -1, looked " + looked, y.judged(0, -1, looked), -1);
         }
     }
 

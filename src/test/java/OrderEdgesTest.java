@@ -15,6 +15,7 @@ public final class OrderEdgesTest {
         everyWord();
         theEnd();
         clauses();
+        clauseByClause();
         tasks();
         within();
         things();
@@ -265,6 +266,29 @@ public final class OrderEdgesTest {
         NearlyShut x = machines(1);
         Checks.order(x, 0, 0, "ground if 1=2;".repeat(11) + "look window");
         c.due("the twelfth", x.bound(0, 3), 8);
+    }
+
+    private static void clauseByClause() {
+        c.sentence("CLAUSE: must TASK within NUMBER [ if TEST ] | force SUM [ if TEST ] | look THING [ if TEST ] | ground [ if TEST ].");
+        for (String body : new String[] {"must 1 within 2", "force 3", "look lamp", "ground"}) {
+            int n = body.length();
+            good(body);
+            good(body + " if 1<2");
+            good(body + ";" + body + " if 1<2;" + body);
+            fault(body + " if", n + 3, 0);
+            fault(body + " if;", n + 3, 0);
+            fault(body + " if 1<2 if 1<2", n + 8, 0);
+            fault(body + " [ if 1<2 ]", n + 1, 0);
+            fault(body + " or 1<2", n + 1, 0);
+            fault(body + " 1<2", n + 1, 0);
+            fault("if 1<2 " + body, 0, 0);
+        }
+        c.sentence("Of a MACHINE what 0: OWED (TASK t is bit t), 1: LATE, 2: FORCE, 3: MUST LOOK");
+        NearlyShut x = machines(1);
+        Checks.order(x, 0, 0, "must 9 within 0; must 8 within 1; force 77; look window");
+        x.clock(1);
+        int[] due = {-1, 512 + 256, 512, 77, 8, 1, -1};
+        for (int what = -1; what <= 5; what++) c.due("what " + what, x.bound(0, what), due[what + 1]);
     }
 
     private static void tasks() {

@@ -351,6 +351,21 @@ public final class StampAndPaperEdgesTest {
         c.due("without it, below", x.sure(-1), -1);
         x.stamp(0, 1, 0, 3);
         c.due("a set again", x.fewest(), 0);
+        c.sentence("FEWEST; -2: no set CAN BE.");
+        NearlyShut y = on(0, 1);
+        c.due("nothing at all", y.fewest(), 0);
+        y.see(0, 0, 0, false);
+        c.due("nothing was done", y.fewest(), 0);
+        y.see(0, 0, 0, true);
+        c.due("done and not on one DAY", y.fewest(), -2);
+        y.stamp(0, 0, 0, 0);
+        c.due("with a STAMP, too", y.fewest(), -2);
+        c.sentence("Of a STAMP: 1 SURELY TRUE, 2 SURELY FALSE");
+        NearlyShut z = on(0, 1);
+        for (int task = 0; task < 3; task++) z.stamp(0, task, task, 0);
+        z.see(0, 0, 0, true);
+        z.see(0, 1, 0, false);
+        sure("true, false, neither", z, 1, 2, 0, -1);
     }
 
     private static void papers() {

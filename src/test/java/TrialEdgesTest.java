@@ -523,6 +523,12 @@ public final class TrialEdgesTest {
         c.due("400 seats, one less", x.floor(10, 10, 8999, 0, 400, 1, 0), 1);
         c.due("99999", x.floor(400, 25, 99999, 0, 0, 1, 0), 1);
         c.due("99999 and a hole", x.floor(400, 25, 99999, 1, 0, 1, 0), 0);
+        c.sentence("if the door goes at a height at which the air presses, by rate alone times height times 10, more than that");
+        int[][] airs = {{0, 1, 0}, {0, 99, 0}, {1, 1, 10}, {1, 99, 990}, {7, 13, 910}, {100, 99, 99000}, {400, 1, 4000}, {400, 24, 96000}};
+        for (int[] a : airs) {
+            c.due("height " + a[0] + ", rate " + a[1] + " on as much", x.floor(a[0], a[1], a[2], 0, 0, 1, 0), 0);
+            if (a[2] > 0) c.due("height " + a[0] + ", rate " + a[1] + " on one less", x.floor(a[0], a[1], a[2] - 1, 0, 0, 1, 0), 1);
+        }
         c.due("no more than it bears at height 0", x.floor(0, 99, 0, 0, 0, 1, 0), 0);
         c.due("more at height 1", x.floor(1, 1, 9, 0, 0, 1, 0), 1);
         c.due("ten at height 1", x.floor(1, 1, 10, 0, 0, 1, 0), 0);
