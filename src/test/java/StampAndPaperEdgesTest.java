@@ -338,6 +338,15 @@ public final class StampAndPaperEdgesTest {
         x.see(1, 0, 0, true);
         c.due("the first, seen done", x.sure(0), 1);
         c.due("the last still", x.sure(199), 2);
+        // all 200 of one TASK: the one that it was done by is the first told, or the last
+        for (int told = 0; told < 200; told += 199) {
+            NearlyShut y = on(1, 1);
+            for (int i = 0; i < 200; i++) y.stamp(0, 0, i % 16, i == told ? 0 : 1);
+            y.see(0, 0, 0, true);
+            c.due("STAMP " + told + " of all 200", y.sure(told), 1);
+            c.due("one in the midst", y.sure(100), 0);
+            c.due("that one, and two of each MAN", y.fewest(), 199 - 32);
+        }
     }
 
     private static void noSet() {
