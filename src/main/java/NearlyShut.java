@@ -1164,7 +1164,9 @@ public final class NearlyShut {
             if (at + 1 < tape.signs && at < BYTES) {
                 at++;
             }
-            at = Math.max(0, at);
+            if (at < 0) {
+                at = 0;
+            }
             sign = tape.sign[at];
             number = tape.number[at];
         }
@@ -1242,66 +1244,36 @@ public final class NearlyShut {
             return true;
         }
 
+        /** Facts joined by and, each such part joined by or: one or waits until its right side is whole. */
         private boolean readTest(int depth) {
-            if (!readAll(depth)) {
+            if (!readFact(depth)) {
                 return false;
             }
-            for (int n = 0; n < BYTES && sign == Tape.OR; n++) {
+            boolean orWaits = false;
+            for (int n = 0; n < BYTES && (sign == Tape.AND || sign == Tape.OR); n++) {
+                boolean and = sign == Tape.AND;
+                if (!and && orWaits) {
+                    order.emit(Order.OR);
+                }
+                orWaits = orWaits || !and;
                 step();
-                if (!readAll(depth)) {
+                if (!readFact(depth)) {
                     return false;
                 }
+                if (and) {
+                    order.emit(Order.AND);
+                }
+            }
+            if (orWaits) {
                 order.emit(Order.OR);
             }
             return true;
         }
 
-        private boolean readAll(int depth) {
-            if (!readFact(depth)) {
-                return false;
-            }
-            for (int n = 0; n < BYTES && sign == Tape.AND; n++) {
-                step();
-                if (!readFact(depth)) {
-                    return false;
-                }
-                order.emit(Order.AND);
-            }
-            return true;
-        }
-
         private boolean readFact(int depth) {
-            boolean not = sign == Tape.NOT;
-            if (!not && sign != '[') {
-                return readCompared();
+            if (sign == Tape.NOT || sign == '[') {
+                return readInner(depth + 1);
             }
-            if (depth >= MOST_DEEP) {
-                return fail(TOO_DEEP);
-            }
-            step();
-            return not ? readNot(depth + 1) : readBrackets(depth + 1);
-        }
-
-        private boolean readNot(int depth) {
-            if (!readFact(depth)) {
-                return false;
-            }
-            order.emit(Order.NOT);
-            return true;
-        }
-
-        private boolean readBrackets(int depth) {
-            if (!readTest(depth)) {
-                return false;
-            }
-            if (sign != ']') {
-                return fail(OUT_OF_PLACE);
-            }
-            step();
-            return true;
-        }
-
-        private boolean readCompared() {
             if (!readSum()) {
                 return false;
             }
@@ -1318,6 +1290,27 @@ public final class NearlyShut {
                 return false;
             }
             order.emit(comparing);
+            return true;
+        }
+
+        /** What stands behind not, or in brackets. */
+        private boolean readInner(int depth) {
+            if (depth > MOST_DEEP) {
+                return fail(TOO_DEEP);
+            }
+            boolean not = sign == Tape.NOT;
+            step();
+            if (not ? !readFact(depth) : !readTest(depth)) {
+                return false;
+            }
+            if (not) {
+                order.emit(Order.NOT);
+                return true;
+            }
+            if (sign != ']') {
+                return fail(OUT_OF_PLACE);
+            }
+            step();
             return true;
         }
 

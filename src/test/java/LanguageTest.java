@@ -8,7 +8,9 @@ import java.nio.file.Path;
 import java.util.ArrayList;
 import java.util.Arrays;
 import java.util.List;
+import java.util.Map;
 import java.util.Set;
+import java.util.TreeMap;
 import java.util.TreeSet;
 import java.util.regex.Matcher;
 import java.util.regex.Pattern;
@@ -30,7 +32,10 @@ public final class LanguageTest {
         classesInside();
         String source = Files.readString(Path.of("src/main/java/NearlyShut.java"));
         words(source);
-        lengths(source);
+        Map<String, String> bodies = bodies(source);
+        c.due("methods were found: " + bodies.size(), bodies.size() > 100, true);
+        deepest(bodies);
+        objectsMade(bodies);
         c.end("LanguageTest");
     }
 
@@ -101,20 +106,59 @@ public final class LanguageTest {
         c.due("signs 1 to 127 alone", source.chars().allMatch(s -> s > 0 && s < 128), true);
     }
 
-    private static void lengths(String source) {
-        String[] lines = source.split("\n");
-        int from = -1;
-        String indent = "";
-        Pattern head = Pattern.compile("^( {4}| {8})[\\w\\[\\]]+[\\w\\[\\] ]*\\(.*\\) \\{$");
+    /** Of each method, by its name, all lines of its body; those of one name in several classes are taken together. */
+    private static Map<String, String> bodies(String source) {
+        Map<String, String> bodies = new TreeMap<>();
+        String[] lines = source.replaceAll("//[^\n]*", "").split("\n");
+        Pattern head = Pattern.compile("^( {4}| {8})(?:[\\w\\[\\]]+ )*(\\w+)\\(.*\\) \\{$");
         for (int i = 0; i < lines.length; i++) {
             Matcher m = head.matcher(lines[i]);
-            if (from < 0 && m.matches()) {
-                from = i;
-                indent = m.group(1);
-            } else if (from >= 0 && lines[i].equals(indent + "}")) {
-                c.due("sixty lines at most from line " + (from + 1), i - from < 60, true);
-                from = -1;
-            }
+            if (!m.matches()) continue;
+            int from = i;
+            StringBuilder body = new StringBuilder();
+            while (!lines[++i].equals(m.group(1) + "}")) body.append(lines[i]).append('\n');
+            c.due("sixty lines at most from line " + (from + 1), i - from < 60, true);
+            bodies.merge(m.group(2), body.toString(), String::concat);
         }
+        return bodies;
+    }
+
+    /** Rule 11: calls that are no recursion go eight deep at most, those of the library counted too. */
+    private static void deepest(Map<String, String> bodies) {
+        Map<String, Set<String>> calls = new TreeMap<>();
+        for (String name : bodies.keySet()) {
+            Set<String> called = new TreeSet<>();
+            Matcher m = Pattern.compile("(\\w+)\\(").matcher(bodies.get(name));
+            while (m.find()) {
+                if (!m.group(1).matches("if|for|while|switch|return")) called.add(m.group(1));
+            }
+            calls.put(name, called);
+        }
+        for (String name : bodies.keySet()) {
+            List<String> longest = longest(name, calls, new ArrayList<>());
+            c.due("eight deep at most: " + longest, longest.size() <= 8, true);
+        }
+    }
+
+    /** The longest chain of calls from there on in which no method stands twice. */
+    private static List<String> longest(String name, Map<String, Set<String>> calls, List<String> open) {
+        open.add(name);
+        List<String> best = new ArrayList<>(open);
+        for (String next : calls.getOrDefault(name, Set.of())) {
+            if (open.contains(next)) continue;
+            List<String> chain = longest(next, calls, open);
+            if (chain.size() > best.size()) best = chain;
+        }
+        open.remove(open.size() - 1);
+        return best;
+    }
+
+    /** Rule 12: what a run makes stays small: calls make an ORDER that is kept, and a MARK's rows, once for each. */
+    private static void objectsMade(Map<String, String> bodies) {
+        Set<String> makers = new TreeSet<>();
+        for (String name : bodies.keySet()) {
+            if (Pattern.compile("\\bnew\\b|\\bclone\\b|copyOf").matcher(bodies.get(name)).find()) makers.add(name);
+        }
+        if (!makers.equals(Set.of("NearlyShut", "handOver", "mark"))) c.due("objects are made by " + makers, false, true);
     }
 }
